@@ -444,11 +444,12 @@ public final class PairMatching {
         int placeOf(int set) {
             int slot = set * SPREAD >>> SPREAD_SHIFT;
             for (int step = 0; step < SLOTS; step++) {
-                if (!isTaken(slot)) {
+                int place = slots[slot];
+                if (place >= amount || slotOf[place] != slot) {
                     return NO_SUCH;
                 }
-                if (sets[slots[slot]] == set) {
-                    return slots[slot];
+                if (sets[place] == set) {
+                    return place;
                 }
                 slot = slot + 1 & SLOTS - 1;
             }
@@ -1085,7 +1086,7 @@ public final class PairMatching {
                 }
                 total = 0;
                 first = 0L;
-                settle(0, 0, 0L);
+                settle(0, 0L, 0);
             }
         }
 
@@ -1127,36 +1128,32 @@ public final class PairMatching {
             sooner[cell(node, node)] = open[node];
         }
 
-        /** Settles the nodes from the least on, so the node is the depth too. */
-        private void settle(int node, int settled, long set) {
-            if (node >= graph.nodes || node >= MOST_NODES) {
+        /** Settles the least node that is not settled yet, and so on; depth is how many came before. */
+        private void settle(int settled, long set, int depth) {
+            int free = graph.allNodes() & ~settled;
+            if (free == 0 || depth > MOST_NODES) {
                 total++;
                 first = Math.max(first, set);
                 return;
             }
-            if (has(settled, node)) {
-                settle(node + 1, settled, set);
-                return;
-            }
+            int node = leastNode(free);
             wanted[node] = sooner[cell(node, node)];
             if (!isTempted(node, settled)) {
-                settle(node + 1, settled | 1 << node, set);
+                settle(settled | 1 << node, set, depth + 1);
             }
-            int free = open[node] & ~settled;
+            int partners = open[node] & free;
             for (int other = node + 1; other < graph.nodes; other++) {
-                if (has(free, other)) {
-                    settlePair(node, other, settled, set);
+                if (has(partners, other) && canPair(node, other, settled)) {
+                    int both = 1 << node | 1 << other;
+                    settle(settled | both, set | arcBetween[cell(node, other)], depth + 1);
                 }
             }
         }
 
-        private void settlePair(int node, int other, int settled, long set) {
+        private boolean canPair(int node, int other, int settled) {
             wanted[node] = sooner[cell(node, other)];
             wanted[other] = sooner[cell(other, node)];
-            if (!isTempted(node, settled) && !isTempted(other, settled)) {
-                int both = 1 << node | 1 << other;
-                settle(node + 1, settled | both, set | arcBetween[cell(node, other)]);
-            }
+            return !isTempted(node, settled) && !isTempted(other, settled);
         }
 
         /** Whether the node and a settled one would both rather have one another. */
