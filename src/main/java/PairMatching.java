@@ -560,7 +560,10 @@ public final class PairMatching {
             if (leaving == LEAVE_FREELY) {
                 take(place, rest, 0, 0L);
             } else if (leaving == LEAVE_BY_ARC) {
-                takeByArc(place, set, low, rest);
+                long first = firstOutOf(set, low);
+                if (first != 0L) {
+                    take(place, rest, gainOf(COVER_WAY, 0), first);
+                }
             }
             for (int i = 0; i < rests.laters[low]; i++) {
                 int other = rests.later[cell(low, i)];
@@ -570,17 +573,15 @@ public final class PairMatching {
             }
         }
 
-        /** A node that has no partner in the set is covered by its first arc that leaves the set. */
-        private void takeByArc(int place, int set, int low, int rest) {
+        /** Nodes outside the set are covered already, so of the arcs to them only the FIRST is of use. */
+        private long firstOutOf(int set, int low) {
             long first = 0L;
             for (int other = 0; other < MOST_NODES; other++) {
                 if (!has(set, other)) {
                     first = Math.max(first, mark[cell(low, other)]);
                 }
             }
-            if (first != 0L) {
-                take(place, rest, gainOf(COVER_WAY, 0), first);
-            }
+            return first;
         }
 
         private void take(int place, int rest, int moreGain, long moreMark) {
