@@ -96,7 +96,7 @@ public final class AnyCallTests {
         long before = threads.getCurrentThreadAllocatedBytes();
         dearCalls();
         long made = threads.getCurrentThreadAllocatedBytes() - before;
-        checks.isTrue("512 dear calls make " + made + " bytes", made < MOST_BYTES);
+        checks.isTrue("a whole run of dear calls makes " + made + " bytes", made < MOST_BYTES);
         before = threads.getCurrentThreadAllocatedBytes();
         for (int i = 0; i < 100; i++) {
             new PairMatching().node();
@@ -105,7 +105,7 @@ public final class AnyCallTests {
         checks.isTrue("100 objects make " + made + " bytes", made < MOST_BYTES);
     }
 
-    /** 16 nodes, 60 arcs, and then changes with dear calls after each of them: 512 calls in all. */
+    /** 16 nodes, 60 arcs, and changes with dear calls after each of them: as many rounds as 512 calls hold. */
     private static void dearCalls() {
         PairMatching x = new PairMatching();
         for (int node = 0; node < 12; node++) {
