@@ -19,6 +19,10 @@ final class Checks {
         due(what, holds ? 1 : 0, 1);
     }
 
+    int done() {
+        return done;
+    }
+
     /** Ends the test: exit code 1 if an answer was wrong. */
     void end() {
         System.out.println(done + " answers, " + wrong + " wrong");

@@ -10,6 +10,7 @@ public final class DefinitionTests {
     private PairMatching x;
     private SlowPairs slow;
     private int run;
+    private int calls;
 
     public static void main(String[] args) {
         DefinitionTests tests = new DefinitionTests();
@@ -21,6 +22,7 @@ public final class DefinitionTests {
 
     private void oneRun(int number) {
         run = number;
+        calls = 0;
         x = new PairMatching();
         slow = new SlowPairs();
         int nodes = random.nextInt(8);
@@ -36,15 +38,16 @@ public final class DefinitionTests {
             }
         }
         askAll();
-        change(dearest, ranks);
-        askAll();
         if (random.nextInt(8) == 0) {
             due("clear()", x.clear(), slow.clear());
             due("node()", x.node(), slow.node());
             due("node()", x.node(), slow.node());
             due("arc(1, 0, 5)", x.arc(1, 0, 5), slow.arc(1, 0, 5));
-            askAll();
+        } else {
+            change(dearest, ranks);
         }
+        askAll();
+        checks.isTrue("run " + run + " has no more than 512 calls", calls <= 512);
     }
 
     private void change(int dearest, int ranks) {
@@ -100,7 +103,7 @@ public final class DefinitionTests {
             due("joinArc(" + i + ") of old", x.joinArc(i), slow.joinArc(i));
             due("pairs(" + i + ")", x.pairs(i), slow.pairs(i));
             due("weight(" + i + ")", x.weight(i), slow.weight(i));
-            for (int node = -1; node < 9; node++) {
+            for (int node = -1; node < 9 && i < 5; node++) {
                 due("mate(" + i + ", " + node + ")", x.mate(i, node), slow.mate(i, node));
             }
             due("sort(" + i + ")", x.sort(i), slow.sort(i));
@@ -114,7 +117,7 @@ public final class DefinitionTests {
         due("cover()", x.cover(), slow.cover());
         due("hold()", x.hold(), slow.hold());
         due("stable()", x.stable(), slow.stable());
-        for (int times = 0; times < 6; times++) {
+        for (int times = 0; times < 3; times++) {
             askJoin(random.nextInt(256));
         }
     }
@@ -127,6 +130,7 @@ public final class DefinitionTests {
     }
 
     private void due(String call, long got, long want) {
+        calls++;
         checks.due("run " + run + ": " + call, got, want);
     }
 }

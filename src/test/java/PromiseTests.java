@@ -34,36 +34,6 @@ public final class PromiseTests {
         checks.due(what, got, want);
     }
 
-    /** A graph with nodes and arcs; each arc is {a, b, weight}. */
-    private static PairMatching graph(int nodes, int[]... arcs) {
-        PairMatching x = new PairMatching();
-        for (int node = 0; node < nodes; node++) {
-            x.node();
-        }
-        for (int[] arc : arcs) {
-            x.arc(arc[0], arc[1], arc[2]);
-        }
-        return x;
-    }
-
-    private static int[] arc(int a, int b, int weight) {
-        return new int[] {a, b, weight};
-    }
-
-    /** 0 - 1 - 2 - 3 with a dear arc in the middle. */
-    private static PairMatching path() {
-        return graph(4, arc(0, 1, 3), arc(1, 2, 9), arc(2, 3, 4));
-    }
-
-    private static PairMatching square() {
-        return graph(4, arc(0, 1, 3), arc(1, 2, 5), arc(2, 3, 4), arc(3, 0, 1));
-    }
-
-    private static void rankBoth(PairMatching x, int a, int b, int byA, int byB) {
-        x.rank(a, b, byA);
-        x.rank(b, a, byB);
-    }
-
     private void promise1() {
         PairMatching x = new PairMatching();
         due("new: node 0", x.sort(0), -1);
@@ -88,7 +58,7 @@ public final class PromiseTests {
     }
 
     private void promise3() {
-        PairMatching x = graph(3);
+        PairMatching x = Given.graph(3);
         due("arc", x.arc(0, 1, 0), 0);
         due("arc between the same", x.arc(1, 0, 1000), 1);
         due("arc to itself", x.arc(1, 1, 5), -2);
@@ -113,7 +83,7 @@ public final class PromiseTests {
     }
 
     private void promise4() {
-        PairMatching x = graph(3, arc(0, 1, 5), arc(1, 0, 7), arc(1, 2, 9));
+        PairMatching x = Given.graph(3, "0-1:5 1-0:7 1-2:9");
         due("cut", x.cut(0), 2);
         due("cut again", x.cut(0), -1);
         due("the other arc stays", x.mate(0, 0), 1);
@@ -131,8 +101,8 @@ public final class PromiseTests {
     }
 
     private void promise5() {
-        PairMatching x = graph(3, arc(0, 1, 5), arc(1, 2, 5));
-        rankBoth(x, 0, 1, 1, 1);
+        PairMatching x = Given.graph(3, "0-1:5 1-2:5");
+        Given.rankBoth(x, 0, 1, 1, 1);
         due("join ahead of clear", x.join(3), 5);
         due("clear", x.clear(), 3);
         due("no join after clear", x.joinArc(0), -3);
@@ -145,7 +115,7 @@ public final class PromiseTests {
         due("no old ranks", x.rank(1, 0, -1), -1);
         due("arcs from 0 on", x.arc(0, 1, 2), 0);
         due("pairs", x.weight(0), 2);
-        PairMatching full = graph(2);
+        PairMatching full = Given.graph(2);
         for (int arc = 0; arc < 60; arc++) {
             full.arc(0, 1, 1);
         }
@@ -156,7 +126,7 @@ public final class PromiseTests {
     }
 
     private void promise6() {
-        PairMatching x = path();
+        PairMatching x = Given.path();
         due("most", x.pairs(0), 2);
         due("dearest", x.pairs(1), 1);
         due("all, least", x.pairs(2), 2);
@@ -169,17 +139,17 @@ public final class PromiseTests {
         due("most with a node alone", x.pairs(0), 2);
         due("not all", x.pairs(2), -3);
         due("not all", x.pairs(3), -3);
-        PairMatching zero = graph(2, arc(0, 1, 0));
+        PairMatching zero = Given.graph(2, "0-1:0");
         due("an arc of weight 0 adds nothing", zero.pairs(1), 0);
         due("but it is an arc", zero.pairs(0), 1);
-        PairMatching equal = graph(4, arc(0, 1, 2), arc(2, 3, 2), arc(1, 2, 4));
+        PairMatching equal = Given.graph(4, "0-1:2 2-3:2 1-2:4");
         due("of equal weight the fewest", equal.pairs(1), 1);
-        PairMatching ring = graph(5, arc(0, 1, 1), arc(1, 2, 1), arc(2, 3, 1), arc(3, 4, 1), arc(4, 0, 1));
+        PairMatching ring = Given.graph(5, "0-1:1 1-2:1 2-3:1 3-4:1 4-0:1");
         due("ring of five", ring.pairs(0), 2);
     }
 
     private void promise7() {
-        PairMatching x = square();
+        PairMatching x = Given.square();
         due("the FIRST's weight", x.weight(0), 7);
         due("dearest", x.weight(1), 7);
         due("all, least", x.weight(2), 6);
@@ -203,7 +173,7 @@ public final class PromiseTests {
     }
 
     private void promise8() {
-        PairMatching x = path();
+        PairMatching x = Given.path();
         int[][] due = {{0, 0, 2, 2}, {-3, 1, 1, -3}, {0, 0, 2, 2}, {0, 0, 2, 2}};
         for (int way = 0; way < 4; way++) {
             for (int node = 0; node < 4; node++) {
@@ -220,10 +190,10 @@ public final class PromiseTests {
         due("no such pairs", x.mate(2, 0), -3);
         due("not covered", x.mate(0, 4), -3);
         due("-1 ahead of -3", x.mate(2, 5), -1);
-        PairMatching first = graph(4, arc(2, 3, 1), arc(0, 2, 1), arc(1, 3, 1), arc(0, 1, 1));
+        PairMatching first = Given.graph(4, "2-3:1 0-2:1 1-3:1 0-1:1");
         due("the FIRST has arc 0", first.mate(0, 2), 0);
         due("the FIRST has arc 0", first.mate(2, 0), 3);
-        PairMatching twin = graph(2, arc(0, 1, 4), arc(1, 0, 2), arc(0, 1, 2), arc(0, 1, 4));
+        PairMatching twin = Given.graph(2, "0-1:4 1-0:2 0-1:2 0-1:4");
         due("least number", twin.mate(0, 1), 0);
         due("dearest, least number", twin.mate(1, 1), 0);
         due("cheapest, least number", twin.mate(2, 1), 1);
@@ -231,7 +201,7 @@ public final class PromiseTests {
     }
 
     private void promise9() {
-        PairMatching star = graph(5, arc(0, 1, 1), arc(0, 2, 1), arc(3, 4, 1));
+        PairMatching star = Given.graph(5, "0-1:1 0-2:1 3-4:1");
         int[] sorts = {1, 0, 0, 2, 2};
         for (int node = 0; node < 5; node++) {
             due("sort(" + node + ")", star.sort(node), sorts[node]);
@@ -240,11 +210,11 @@ public final class PromiseTests {
         for (int wrong : WRONG) {
             due("no node", star.sort(wrong), -1);
         }
-        PairMatching ring = graph(3, arc(0, 1, 1), arc(1, 2, 1), arc(2, 0, 1));
+        PairMatching ring = Given.graph(3, "0-1:1 1-2:1 2-0:1");
         for (int node = 0; node < 3; node++) {
             due("odd ring", ring.sort(node), 0);
         }
-        due("alone", graph(1).sort(0), 0);
+        due("alone", Given.graph(1).sort(0), 0);
         due("an arc cut makes it alone", cutStar(star), 0);
     }
 
@@ -254,8 +224,7 @@ public final class PromiseTests {
     }
 
     private void promise10() {
-        PairMatching x = graph(7, arc(3, 0, 1), arc(3, 5, 1), arc(3, 1, 1), arc(2, 4, 1), arc(1, 6, 1), arc(6, 5, 1),
-                arc(5, 1, 1));
+        PairMatching x = Given.graph(7, "3-0:1 3-5:1 3-1:1 2-4:1 1-6:1 6-5:1 5-1:1");
         // Without 3 there are {0} and the ring {1, 5, 6}; {2, 4} is apart.
         int[] pieces = {0, 1, 2, -3, 2, 1, 1};
         for (int node = 0; node < 7; node++) {
@@ -280,7 +249,7 @@ public final class PromiseTests {
     }
 
     private void promise11() {
-        PairMatching x = graph(6, arc(0, 1, 1), arc(0, 2, 1), arc(0, 3, 1), arc(4, 5, 1));
+        PairMatching x = Given.graph(6, "0-1:1 0-2:1 0-3:1 4-5:1");
         int[] shape = {1, 3, 2, 1, 2};
         for (int what = 0; what < 5; what++) {
             due("shape(" + what + ")", x.shape(what), shape[what]);
@@ -294,7 +263,7 @@ public final class PromiseTests {
         for (int what = 0; what < 5; what++) {
             due("with a ring: shape(" + what + ")", x.shape(what), ring[what]);
         }
-        due("square is in two", square().shape(3), 1);
+        due("square is in two", Given.square().shape(3), 1);
         PairMatching none = new PairMatching();
         int[] empty = {0, 0, 0, 1, 0};
         for (int what = 0; what < 5; what++) {
@@ -303,7 +272,7 @@ public final class PromiseTests {
     }
 
     private void promise12() {
-        PairMatching x = path();
+        PairMatching x = Given.path();
         due("count(0)", x.count(0), 1);
         due("count(1)", x.count(1), 3);
         due("count(2)", x.count(2), 1);
@@ -315,7 +284,7 @@ public final class PromiseTests {
         x.arc(0, 1, 3);
         due("arcs between the same are different", x.count(1), 4);
         due("arcs between the same are different", x.count(2), 2);
-        PairMatching bundles = graph(16);
+        PairMatching bundles = Given.graph(16);
         for (int arc = 0; arc < 60; arc++) {
             bundles.arc(arc % 8 * 2, arc % 8 * 2 + 1, 1);
         }
@@ -324,8 +293,8 @@ public final class PromiseTests {
     }
 
     private void promise13() {
-        due("path", path().cover(), 2);
-        PairMatching star = graph(4, arc(0, 1, 1), arc(0, 2, 1), arc(0, 3, 1));
+        due("path", Given.path().cover(), 2);
+        PairMatching star = Given.graph(4, "0-1:1 0-2:1 0-3:1");
         due("star", star.cover(), 3);
         star.node();
         due("a node has no arc", star.cover(), -3);
@@ -337,7 +306,7 @@ public final class PromiseTests {
     }
 
     private void promise14() {
-        PairMatching x = graph(5, arc(3, 4, 1), arc(2, 3, 1), arc(1, 2, 1), arc(0, 1, 1), arc(0, 4, 1));
+        PairMatching x = Given.graph(5, "3-4:1 2-3:1 1-2:1 0-1:1 0-4:1");
         int[] arcs = {0, 1, 3, -1};
         for (int i = 0; i < arcs.length; i++) {
             due("coverArc(" + i + ")", x.coverArc(i), arcs[i]);
@@ -353,29 +322,29 @@ public final class PromiseTests {
     }
 
     private void promise15() {
-        due("path", path().hold(), 2);
-        PairMatching star = graph(4, arc(3, 1, 1), arc(3, 2, 1), arc(3, 0, 1));
+        due("path", Given.path().hold(), 2);
+        PairMatching star = Given.graph(4, "3-1:1 3-2:1 3-0:1");
         due("star", star.hold(), 1);
         star.arc(0, 1, 1);
         due("ring with a tail", star.hold(), 2);
         star.cut(3);
         due("star again", star.hold(), 1);
-        due("no arcs", graph(3).hold(), 0);
+        due("no arcs", Given.graph(3).hold(), 0);
         due("empty", new PairMatching().hold(), 0);
     }
 
     private void promise16() {
-        PairMatching x = path();
+        PairMatching x = Given.path();
         due("holdNode(0)", x.holdNode(0), 0);
         due("holdNode(1)", x.holdNode(1), 2);
         due("holdNode(2)", x.holdNode(2), -1);
         for (int wrong : WRONG) {
             due("no place", x.holdNode(wrong), -1);
         }
-        PairMatching star = graph(4, arc(3, 1, 1), arc(3, 2, 1), arc(3, 0, 1));
+        PairMatching star = Given.graph(4, "3-1:1 3-2:1 3-0:1");
         due("star", star.holdNode(0), 3);
-        due("no arcs", graph(3).holdNode(0), -1);
-        PairMatching pairs = graph(16);
+        due("no arcs", Given.graph(3).holdNode(0), -1);
+        PairMatching pairs = Given.graph(16);
         for (int node = 0; node < 8; node++) {
             pairs.arc(15 - node, node, 1);
         }
@@ -386,7 +355,7 @@ public final class PromiseTests {
     }
 
     private void promise17() {
-        PairMatching x = square();
+        PairMatching x = Given.square();
         due("join of none", x.join(0), 0);
         due("join of two", x.join(0b0101), 5);
         due("join of all", x.join(0b1111), 6);
@@ -407,7 +376,7 @@ public final class PromiseTests {
     }
 
     private void promise18() {
-        PairMatching x = square();
+        PairMatching x = Given.square();
         due("none was told", x.joinArc(0), -3);
         due("-3 ahead of -1", x.joinArc(-1), -3);
         x.join(0b0101);
@@ -441,20 +410,20 @@ public final class PromiseTests {
     }
 
     private void joinTies() {
-        PairMatching zeros = graph(4, arc(0, 1, 0), arc(1, 2, 0), arc(0, 2, 0), arc(2, 3, 5), arc(0, 3, 5));
+        PairMatching zeros = Given.graph(4, "0-1:0 1-2:0 0-2:0 2-3:5 0-3:5");
         due("of equal weight", zeros.join(0b0101), 0);
         due("the fewest arcs", zeros.joinArc(0), 2);
         due("the fewest arcs", zeros.joinArc(1), -1);
         due("no arcs for no nodes", zeros.join(0), 0);
         due("no arcs for no nodes", zeros.joinArc(0), -1);
-        PairMatching ties = graph(4, arc(1, 3, 1), arc(0, 2, 1), arc(0, 1, 1), arc(2, 3, 1), arc(0, 1, 1));
+        PairMatching ties = Given.graph(4, "1-3:1 0-2:1 0-1:1 2-3:1 0-1:1");
         due("two ways round", ties.join(0b1001), 2);
         due("the FIRST", ties.joinArc(0), 0);
         due("the FIRST", ties.joinArc(1), 2);
     }
 
     private void promise19() {
-        PairMatching x = graph(3);
+        PairMatching x = Given.graph(3);
         due("it was not", x.rank(0, 1, 0), -1);
         due("it was 0", x.rank(0, 1, 99), 0);
         due("it was 99", x.rank(0, 1, -1), 99);
@@ -481,25 +450,25 @@ public final class PromiseTests {
 
     private void promise20() {
         due("empty", new PairMatching().stable(), 1);
-        PairMatching square = square();
+        PairMatching square = Given.square();
         due("nobody is open", square.stable(), 1);
         // 0 and 2 would sooner have 1 and 3 in this order, 1 and 3 would sooner have 2 and 0.
-        rankBoth(square, 0, 1, 0, 9);
-        rankBoth(square, 2, 3, 0, 9);
-        rankBoth(square, 1, 2, 0, 9);
-        rankBoth(square, 3, 0, 0, 9);
+        Given.rankBoth(square, 0, 1, 0, 9);
+        Given.rankBoth(square, 2, 3, 0, 9);
+        Given.rankBoth(square, 1, 2, 0, 9);
+        Given.rankBoth(square, 3, 0, 0, 9);
         due("two sorts of happiness", square.stable(), 2);
         square.cut(0);
         due("an arc less", square.stable(), 1);
-        PairMatching ring = graph(3, arc(0, 1, 1), arc(1, 2, 1), arc(2, 0, 1));
-        rankBoth(ring, 0, 1, 1, 2);
-        rankBoth(ring, 1, 2, 1, 2);
-        rankBoth(ring, 2, 0, 1, 2);
+        PairMatching ring = Given.graph(3, "0-1:1 1-2:1 2-0:1");
+        Given.rankBoth(ring, 0, 1, 1, 2);
+        Given.rankBoth(ring, 1, 2, 1, 2);
+        Given.rankBoth(ring, 2, 0, 1, 2);
         due("none", ring.stable(), 0);
-        rankBoth(ring, 0, 1, 2, 2);
+        Given.rankBoth(ring, 0, 1, 2, 2);
         due("with a tie", ring.stable(), 1);
-        rankBoth(ring, 1, 2, 2, 2);
-        rankBoth(ring, 2, 0, 2, 2);
+        Given.rankBoth(ring, 1, 2, 2, 2);
+        Given.rankBoth(ring, 2, 0, 2, 2);
         due("all the same", ring.stable(), 3);
         ring.rank(0, 1, -1);
         due("no more open", ring.stable(), 2);
@@ -521,32 +490,32 @@ public final class PromiseTests {
     }
 
     private void promise21() {
-        PairMatching x = square();
+        PairMatching x = Given.square();
         x.arc(1, 0, 1);
         due("not covered", x.stableMate(0), -3);
         for (int wrong : WRONG) {
             due("no node", x.stableMate(wrong), -1);
         }
         due("node 4", x.stableMate(4), -1);
-        rankBoth(x, 1, 0, 5, 5);
+        Given.rankBoth(x, 1, 0, 5, 5);
         due("the least number between them", x.stableMate(0), 0);
         due("the least number between them", x.stableMate(1), 0);
         due("not covered", x.stableMate(2), -3);
         x.cut(0);
         due("the next arc between them", x.stableMate(0), 4);
-        rankBoth(x, 2, 1, 5, 4);
+        Given.rankBoth(x, 2, 1, 5, 4);
         due("sooner with another", x.stableMate(1), 1);
         due("left", x.stableMate(0), -3);
-        PairMatching ring = graph(3, arc(0, 1, 1), arc(1, 2, 1), arc(2, 0, 1));
-        rankBoth(ring, 0, 1, 1, 2);
-        rankBoth(ring, 1, 2, 1, 2);
-        rankBoth(ring, 2, 0, 1, 2);
+        PairMatching ring = Given.graph(3, "0-1:1 1-2:1 2-0:1");
+        Given.rankBoth(ring, 0, 1, 1, 2);
+        Given.rankBoth(ring, 1, 2, 1, 2);
+        Given.rankBoth(ring, 2, 0, 1, 2);
         due("there are none", ring.stableMate(0), -3);
-        PairMatching both = square();
-        rankBoth(both, 0, 1, 0, 9);
-        rankBoth(both, 2, 3, 0, 9);
-        rankBoth(both, 1, 2, 0, 9);
-        rankBoth(both, 3, 0, 0, 9);
+        PairMatching both = Given.square();
+        Given.rankBoth(both, 0, 1, 0, 9);
+        Given.rankBoth(both, 2, 3, 0, 9);
+        Given.rankBoth(both, 1, 2, 0, 9);
+        Given.rankBoth(both, 3, 0, 0, 9);
         due("the FIRST of two", both.stableMate(3), 2);
         due("the FIRST of two", both.stableMate(0), 0);
     }
