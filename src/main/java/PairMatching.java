@@ -932,8 +932,7 @@ public final class PairMatching {
         }
 
         private static int nodesOf(int price) {
-            int size = (price + ONE_NODE - 1) / ONE_NODE;
-            return size * ONE_NODE - price;
+            return -price & ONE_NODE - 1;
         }
 
         private int leastPrice(int nodes, int depth) {
@@ -1132,7 +1131,10 @@ public final class PairMatching {
         /** Settles the least node that is not settled yet, and so on; depth is how many came before. */
         private void settle(int settled, long set, int depth) {
             int free = graph.allNodes() & ~settled;
-            if (free == 0 || depth > MOST_NODES) {
+            if (depth > MOST_NODES) {
+                return;
+            }
+            if (free == 0) {
                 total++;
                 first = Math.max(first, set);
                 return;

@@ -24,6 +24,7 @@ public final class BoundaryTests extends Sentences {
         sentence("3: -2 the weight is not 0 .. 1000", this::arcWeights);
         sentence("3: -4", this::arcWithoutRoom);
         sentence("4: An ARC is no more: how many there are", this::cutToTheLast);
+        sentence("4: An ARC is no more, for no call", this::cutForEachCall);
         sentence("4: -1", this::cutOfNoArc);
         sentence("5: No NODES: how many NODES there were", this::clearNodes);
         sentence("5: No ARCS", this::clearArcs);
@@ -145,6 +146,48 @@ public final class BoundaryTests extends Sentences {
         }
     }
 
+    /** Each call is asked ahead of the cut, so that it would be seen if it kept what it knew. */
+    private void cutForEachCall() {
+        PairMatching x = Given.graph(4, "0-2:0 0-1:9 1-2:9 2-3:9");
+        Given.rankBoth(x, 0, 2, 1, 1);
+        Given.rankBoth(x, 1, 2, 5, 5);
+        askAll(x);
+        dueInTurn("pairs ahead of it", way -> x.mate(way, 0), 1, 1, 1, 1);
+        dueInTurn("cover ahead of it", x::coverArc, 1, 3, -1);
+        due("join ahead of it", x.join(0b0101), 0);
+        due("stable ahead of it", x.stableMate(2), 0);
+        due("parted ahead of it", x.shape(3), 0);
+        due("cut", x.cut(0), 3);
+        due("count", x.count(1), 3);
+        due("join", x.join(0b0101), 18);
+        dueInTurn("join", x::joinArc, 1, 2, -1);
+        due("stable", x.stableMate(2), 2);
+        due("parted", x.shape(3), 1);
+        due("cut", x.cut(1), 2);
+        dueInTurn("pairs", x::pairs, 1, 1, -3, -3);
+        due("sort", x.sort(0), 0);
+        due("piece", x.piece(2), -3);
+        due("count", x.count(2), 0);
+        due("cover", x.cover(), -3);
+        dueInTurn("hold", x::holdNode, 2, -1);
+        due("parts", x.shape(4), 2);
+        due("cut", x.cut(2), 1);
+        due("stable", x.stableMate(2), -3);
+        due("join", x.join(0b0110), -3);
+        cutOutOfCover();
+    }
+
+    private void cutOutOfCover() {
+        PairMatching x = Given.graph(3, "0-2:1 0-1:1 1-2:1 0-2:1");
+        dueInTurn("cover with arc 0", x::coverArc, 0, 1, -1);
+        x.cut(0);
+        dueInTurn("cover without it", x::coverArc, 1, 2, -1);
+        x.cut(2);
+        dueInTurn("cover with the last", x::coverArc, 1, 3, -1);
+        x.cut(3);
+        dueInTurn("no cover", x::coverArc, -3, -3);
+    }
+
     private void cutOfNoArc() {
         PairMatching x = Given.graph(2, "0-1:1 0-1:1");
         dueOutside("cut", 2, x::cut, -1);
@@ -193,16 +236,25 @@ public final class BoundaryTests extends Sentences {
             due("arcs from 0 on", x.arc(0, 1, 1), arc);
         }
         due("and 60 of them", x.arc(0, 1, 1), -4);
+        due("a cut tells those that are there now", x.cut(0), 59);
+        x.clear();
+        Given.addNodes(x, 2);
+        x.arc(0, 1, 1);
+        due("a cut tells those that are there now", x.cut(0), 0);
     }
 
     private static void askAll(PairMatching x) {
+        askOthers(x);
+        x.join(3);
+    }
+
+    private static void askOthers(PairMatching x) {
         x.pairs(0);
         x.pairs(2);
         x.sort(0);
         x.count(1);
         x.cover();
         x.hold();
-        x.join(3);
         x.stable();
     }
 
@@ -398,7 +450,14 @@ public final class BoundaryTests extends Sentences {
         due("even ones", Given.full().shape(1), 0);
         due("each for itself", Given.graph(16).shape(1), 16);
         due("a ring", Given.triangle().shape(1), 1);
-        due("a ring, an even one, and one alone", Given.graph(6, "0-1:1 1-2:1 2-0:1 3-4:1").shape(1), 2);
+        PairMatching x = Given.graph(6, "0-1:1 1-2:1 2-0:1 3-4:1");
+        due("a ring, an even one, and one alone", x.shape(1), 2);
+        x.arc(4, 5, 1);
+        due("the even one is a path of three now: two ends and a ring", x.shape(1), 3);
+        x.cut(4);
+        due("as before", x.shape(1), 2);
+        x.arc(5, 0, 1);
+        due("all are even now", x.shape(1), 0);
     }
 
     private void leftNodes() {
@@ -417,6 +476,7 @@ public final class BoundaryTests extends Sentences {
         due("several arcs", Given.full().shape(3), 1);
         due("three in a ring", Given.triangle().shape(3), 0);
         due("four in a ring", Given.square().shape(3), 1);
+        due("three in a ring, one of sort 1", Given.graph(5, "0-1:1 1-2:1 2-0:1 0-3:1 0-4:1").shape(3), 0);
         PairMatching x = Given.graph(16);
         for (int node = 0; node < 15; node++) {
             x.arc(node, node + 1, 1);
@@ -443,6 +503,10 @@ public final class BoundaryTests extends Sentences {
         }
         star.cut(7);
         due("one more after a cut", star.shape(4), 2);
+        PairMatching tree = Given.graph(7, "0-1:1 0-2:1 1-3:1 1-4:1 2-5:1 2-6:1");
+        due("a tree", tree.shape(4), 1);
+        tree.cut(1);
+        due("two trees", tree.shape(4), 2);
     }
 
     private void noSuchWhat() {
@@ -460,6 +524,10 @@ public final class BoundaryTests extends Sentences {
         due("size 0", full.count(0), 1);
         due("size 1", full.count(1), 60);
         due("size 8", full.count(8), 8L * 8 * 8 * 8 * 7 * 7 * 7 * 7);
+        PairMatching cut = Given.graph(4, "0-1:0 0-2:0 0-3:0 2-3:0");
+        dueInTurn("four arcs", cut::count, 1, 4, 1, 0);
+        cut.cut(0);
+        dueInTurn("three arcs", cut::count, 1, 3, 0);
         PairMatching fifteen = Given.graph(15);
         for (int node = 0; node < 14; node += 2) {
             fifteen.arc(node, node + 1, 1);
@@ -624,6 +692,10 @@ public final class BoundaryTests extends Sentences {
         PairMatching x = Given.graph(3, "0-1:1 1-2:1");
         x.join(3);
         due("told", x.joinArc(0), 0);
+        x.rank(0, 1, 5);
+        due("a rank is none of these", x.joinArc(0), 0);
+        askOthers(x);
+        due("nor is what was asked", x.joinArc(0), 0);
         x.node();
         due("a node", x.joinArc(0), -3);
         x.join(3);

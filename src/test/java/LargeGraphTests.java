@@ -6,7 +6,7 @@ import java.util.Random;
  * by arc, for all sets of nodes at once.
  */
 public final class LargeGraphTests {
-    private static final int GRAPHS = 60;
+    private static final int GRAPHS = 160;
     private static final long NONE = Long.MAX_VALUE / 4;
     private static final int MOST_SETS = 1 << 16;
 
@@ -17,6 +17,7 @@ public final class LargeGraphTests {
     private final long[] number = new long[MOST_SETS];
     private PairMatching x;
     private String name;
+    private int calls;
     private int nodes;
     private int arcs;
     private final int[] one = new int[60];
@@ -53,11 +54,13 @@ public final class LargeGraphTests {
                 cutOne();
             }
         }
+        checkCalls();
     }
 
     /** Kinds of graphs: any, few neighbours, all at the least nodes, in two sides, rings of odd length. */
     private void makeGraph(int size, int wantedArcs, int heaviest, int kind) {
         x = new PairMatching();
+        calls = 0;
         nodes = size;
         arcs = 0;
         for (int node = 0; node < size; node++) {
@@ -338,7 +341,7 @@ public final class LargeGraphTests {
             }
         }
         checkJoin(0);
-        for (int times = 0; times < 60; times++) {
+        for (int times = 0; times < 5; times++) {
             checkJoin(random.nextInt(1 << nodes));
         }
         checkJoin((1 << nodes) - 1);
@@ -395,6 +398,7 @@ public final class LargeGraphTests {
             checkStable();
             cutOne();
         }
+        checkCalls();
     }
 
     private void checkStable() {
@@ -460,7 +464,12 @@ public final class LargeGraphTests {
         return from < 0 || ranks[node][to] < ranks[node][from];
     }
 
+    private void checkCalls() {
+        checks.isTrue(name + " has no more than 512 calls, but " + calls, calls <= 512);
+    }
+
     private void due(String call, long got, long want) {
+        calls++;
         checks.due(name + ": " + call, got, want);
     }
 }

@@ -147,6 +147,16 @@ public final class TermTests extends Sentences {
         due("join 0 and 1", ahead.joinArc(1), 1);
         around.join(0b1111);
         due("join 0 and 3", around.joinArc(1), 3);
+        ahead.join(0b0101);
+        dueInTurn("one way round 0 and 2, the other 1 and 3", ahead::joinArc, 0, 2, -1);
+        around.join(0b1010);
+        dueInTurn("one way round 0 and 2, the other 1 and 3", around::joinArc, 0, 2, -1);
+        PairMatching late = Given.graph(4, "1-3:1 0-2:1 0-1:1 2-3:1");
+        late.join(0b1001);
+        dueInTurn("the way that is found later is the FIRST", late::joinArc, 0, 2, -1);
+        PairMatching early = Given.graph(4, "2-3:1 0-1:1 0-2:1 1-3:1");
+        early.join(0b1001);
+        dueInTurn("the way that is found sooner is not", early::joinArc, 0, 2, -1);
         rankRound(ahead);
         due("stable 0 and 1", ahead.stableMate(2), 1);
         rankRound(around);
@@ -242,6 +252,7 @@ public final class TermTests extends Sentences {
 
     private void mostPairs() {
         due("no arcs", Given.graph(16).pairs(0), 0);
+        due("two, though one comes ahead", Given.graph(4, "1-2:1 0-1:1 2-3:1").pairs(0), 2);
         due("cheap ones, if there are more", Given.graph(4, "0-1:0 1-2:1000 2-3:0").pairs(0), 2);
         due("their weight", Given.graph(4, "0-1:0 1-2:1000 2-3:0").weight(0), 0);
         due("odd rings", ring(15).pairs(0), 7);
@@ -511,12 +522,30 @@ public final class TermTests extends Sentences {
         due("1 more", x.stable(), 1);
         due("1 stays with 0", x.stableMate(1), 0);
         due("nobody is content", Given.unstable().stable(), 0);
+        severalByLess();
         PairMatching one = Given.graph(4, "0-1:1 1-2:1 2-3:1");
         Given.rankBoth(one, 0, 1, 1, 2);
         Given.rankBoth(one, 1, 2, 1, 2);
         Given.rankBoth(one, 2, 3, 1, 1);
         due("1 would go to 2, but 2 stays with 3", one.stable(), 1);
         dueInTurn("1 would go to 2, but 2 stays with 3", one::stableMate, 0, 0, 2, 2);
+    }
+
+    /** 0 would sooner have 1 or 2 than 3; 2 would sooner have 4. */
+    private void severalByLess() {
+        PairMatching x = Given.graph(5, "0-3:1 0-2:1 0-1:1 2-4:1");
+        Given.rankBoth(x, 0, 1, 1, 0);
+        Given.rankBoth(x, 0, 2, 2, 9);
+        Given.rankBoth(x, 0, 3, 3, 0);
+        Given.rankBoth(x, 2, 4, 0, 0);
+        due("0 does not stay with 3, for 1", x.stable(), 1);
+        dueInTurn("0 does not stay with 3, for 1", x::stableMate, 2, 2, 3, -3, 3);
+        x.rank(0, 1, 3);
+        due("1 comes as late as 3 now: either", x.stable(), 2);
+        x.rank(2, 4, 9);
+        x.rank(2, 0, 0);
+        due("2 would sooner have 0 now", x.stable(), 1);
+        dueInTurn("2 would sooner have 0 now", x::stableMate, 1, -3, 1, -3, -3);
     }
 
     private void firstStable() {
