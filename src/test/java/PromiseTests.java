@@ -210,7 +210,7 @@ public final class PromiseTests {
         for (int wrong : WRONG) {
             due("no node", star.sort(wrong), -1);
         }
-        PairMatching ring = Given.graph(3, "0-1:1 1-2:1 2-0:1");
+        PairMatching ring = Given.triangle();
         for (int node = 0; node < 3; node++) {
             due("odd ring", ring.sort(node), 0);
         }
@@ -450,20 +450,12 @@ public final class PromiseTests {
 
     private void promise20() {
         due("empty", new PairMatching().stable(), 1);
-        PairMatching square = Given.square();
-        due("nobody is open", square.stable(), 1);
-        // 0 and 2 would sooner have 1 and 3 in this order, 1 and 3 would sooner have 2 and 0.
-        Given.rankBoth(square, 0, 1, 0, 9);
-        Given.rankBoth(square, 2, 3, 0, 9);
-        Given.rankBoth(square, 1, 2, 0, 9);
-        Given.rankBoth(square, 3, 0, 0, 9);
+        due("nobody is open", Given.square().stable(), 1);
+        PairMatching square = Given.twiceStable();
         due("two sorts of happiness", square.stable(), 2);
         square.cut(0);
         due("an arc less", square.stable(), 1);
-        PairMatching ring = Given.graph(3, "0-1:1 1-2:1 2-0:1");
-        Given.rankBoth(ring, 0, 1, 1, 2);
-        Given.rankBoth(ring, 1, 2, 1, 2);
-        Given.rankBoth(ring, 2, 0, 1, 2);
+        PairMatching ring = Given.unstable();
         due("none", ring.stable(), 0);
         Given.rankBoth(ring, 0, 1, 2, 2);
         due("with a tie", ring.stable(), 1);
@@ -506,16 +498,9 @@ public final class PromiseTests {
         Given.rankBoth(x, 2, 1, 5, 4);
         due("sooner with another", x.stableMate(1), 1);
         due("left", x.stableMate(0), -3);
-        PairMatching ring = Given.graph(3, "0-1:1 1-2:1 2-0:1");
-        Given.rankBoth(ring, 0, 1, 1, 2);
-        Given.rankBoth(ring, 1, 2, 1, 2);
-        Given.rankBoth(ring, 2, 0, 1, 2);
+        PairMatching ring = Given.unstable();
         due("there are none", ring.stableMate(0), -3);
-        PairMatching both = Given.square();
-        Given.rankBoth(both, 0, 1, 0, 9);
-        Given.rankBoth(both, 2, 3, 0, 9);
-        Given.rankBoth(both, 1, 2, 0, 9);
-        Given.rankBoth(both, 3, 0, 0, 9);
+        PairMatching both = Given.twiceStable();
         due("the FIRST of two", both.stableMate(3), 2);
         due("the FIRST of two", both.stableMate(0), 0);
     }
