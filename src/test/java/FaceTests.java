@@ -19,6 +19,13 @@ public final class FaceTests {
     private static final String[] RULED_OUT = {"throw", "throws", "try", "catch", "finally", "synchronized", "assert",
             "protected", "volatile", "transient", "native", "var", "System\\.(?!arraycopy)", "->", "::", "\\w+Exact",
             "Integer\\.M\\w+_VALUE", "Long\\.M\\w+_VALUE", "java\\.(?!util\\.Arrays;)", "while \\(true\\)"};
+    // The face in the document's order, with what the interface says ahead of some calls.
+    private static final String[] IN_ORDER = {"public PairMatching()", "public int node()", "public int arc(",
+        "public int cut(", "public int clear()", "// ---- pairs\n", "public int pairs(", "public int weight(",
+        "public int mate(", "public int sort(", "public int piece(", "public int shape(", "public long count(",
+        "// ---- covers, holds, joins\n", "public int cover()", "public int coverArc(", "public int hold()",
+        "public int holdNode(", "public int join(", "public int joinArc(", "// ---- ranks\n", "public int rank(",
+        "public int stable()", "public int stableMate("};
     private static final int MOST_CLASSES = 12;
     private static final int MOST_FIELDS = 20;
     private static final int MOST_PARAMETERS = 7;
@@ -29,7 +36,9 @@ public final class FaceTests {
         FaceTests tests = new FaceTests();
         tests.face();
         tests.members();
-        tests.words();
+        String text = Files.readString(Path.of("src/main/java/PairMatching.java"));
+        tests.order(text);
+        tests.words(text);
         tests.checks.end();
     }
 
@@ -89,8 +98,17 @@ public final class FaceTests {
         }
     }
 
-    private void words() throws IOException {
-        String text = Files.readString(Path.of("src/main/java/PairMatching.java"));
+    private void order(String text) {
+        int last = -1;
+        for (String words : IN_ORDER) {
+            int here = text.indexOf(words);
+            checks.isTrue(words.strip() + " stands in its place", here > last);
+            checks.due(words.strip() + " stands once", text.lastIndexOf(words), here);
+            last = here;
+        }
+    }
+
+    private void words(String text) {
         String code = text.replaceAll("(?s)/\\*.*?\\*/", "").replaceAll("//[^\n]*", "");
         for (String word : RULED_OUT) {
             String bounded = Character.isLetter(word.charAt(0)) ? "\\b" + word : word;
